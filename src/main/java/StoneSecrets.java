@@ -1860,11 +1860,11 @@ public final class StoneSecrets {
 
         /** The fewest walls that part all of these that hurt; the first such row stays. */
         int paint(int who) {
-            int fewest = 0;
-            while (fewest < MOST_SOULS && !paintFrom(0, who, fewest)) {
-                fewest++;
+            int limit = 0;
+            while (limit <= MOST_SOULS && !paintFrom(0, who, limit)) {
+                limit++;
             }
-            return fewest;
+            return limit;
         }
 
         private boolean paintFrom(int soul, int who, int limit) {
