@@ -176,7 +176,7 @@ public final class StoneSecretsAgainstPlain {
                 case 31 -> due("like()", stone.like(), plain.like());
                 case 32 -> due("swaps()", stone.swaps(), plain.swaps());
                 case 33 -> {
-                    if (random.nextInt(4) == 0) {
+                    if (random.nextBoolean()) {
                         int w = random.nextInt(6) == 0 ? odd() : random.nextInt(16);
                         boolean more = random.nextBoolean();
                         due("see(" + place + ", " + w + ", " + more + ")", stone.see(place, w, more), plain.see(place, w, more));

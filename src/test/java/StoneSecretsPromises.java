@@ -165,6 +165,8 @@ public final class StoneSecretsPromises {
         }
         fault(1, "soul ^3 lord secret 1 due 1;");
         fault(1, "soul a ^b secret 1 due 1;");
+        fault(1, "soul a ^not secret 1 due 1;");
+        fault(1, "soul a ^take secret 1 due 1;");
         fault(1, "soul a boy ^1 due 1;");
         fault(1, "soul a boy secret ^due 1;");
         fault(4, "soul a boy secret ^21 due 1;");
@@ -436,6 +438,8 @@ public final class StoneSecretsPromises {
         law("5 and 6 = 6", true);
         law("(5 and 6) = 1", true);
         law("(0 or 6) = 1", true);
+        law("(3 = 3) = 1", true);
+        law("not 0 = 1", true);
         law("(7 < 8) + (7 < 7) + (8 < 7) = 1", true);
         law("0 - 5", true);
         law("3 < 3", false);
@@ -551,6 +555,16 @@ public final class StoneSecretsPromises {
         due("one by another: c", z.falls(2), 3);
         due("one by another: b", z.falls(1), 4);
         due("one by another: a", z.falls(0), 5);
+        StringBuilder six = new StringBuilder("wall 6; falls date + 1 = weight;");
+        for (int soul = 0; soul < 6; soul++) {
+            six.append("soul ").append((char) ('a' + soul)).append(" plain secret ").append(soul).append(" due 0;");
+        }
+        StoneSecrets w = told(six.toString());
+        setAll(w, 0, 1, 2, 3, 4, 5);
+        for (int soul = 0; soul < 6; soul++) {
+            due("each in another week", w.falls(soul), soul + 1);
+        }
+        due("the last one", w.bare(), 6);
     }
 
     private static void blurts() {
@@ -790,6 +804,10 @@ public final class StoneSecretsPromises {
         StoneSecrets z = told("wall 1; soul a boy secret 0 due 0; soul b boy secret 0 due 0;");
         setAll(z, 0, NONE);
         due("by none", z.clear(), NONE);
+        StoneSecrets w = told("wall 6; soul a plain secret 1 due 9; soul b lord secret 2 due 9; soul c lord secret 4 due 9;"
+            + "soul d plain secret 5 due 9; soul e lord secret 6 due 9; soul f boy secret 1 due 9; hurts b d; hurts a e;");
+        setAll(w, NONE, 3, NONE, 0, NONE, 5);
+        due("f alone, though b and d would do and come ahead", w.clear(), 0b100000);
     }
 
     private static void best() {
@@ -1049,6 +1067,18 @@ public final class StoneSecretsPromises {
         due("8 there are", x.see(0, 1, true), false);
         due("SEEN", x.count(11), 8);
         due("it is not done, so not undone", x.count(12), 2);
+        due("nothing is SEEN of another VALLEY", valley(x, "wall 3; soul a plain secret 1 due 0; soul b plain secret 4 due 0;"), 0);
+        setAll(x, NONE, NONE);
+        x.see(0, 2, true);
+        x.see(1, 2, true);
+        due("a and b at 0 and 1", x.fit(), 2);
+        valley(x, "wall 3; soul a plain secret 1 due 0; soul b plain secret 4 due 0;");
+        setAll(x, NONE, NONE);
+        x.see(0, 2, true);
+        x.see(1, 2, false);
+        due("at 0, none at 1", x.fit(), 2);
+        x.see(0, 5, false);
+        due("a at 0, b at 2", x.fit(), 1);
     }
 
     private static void fit() {
@@ -1111,6 +1141,7 @@ public final class StoneSecretsPromises {
         due("b", x.chance(1, 2, 3), 700000);
         due("odds 0", x.chance(0, 6, 0), 1000000);
         due("odds 10", x.chance(0, 6, 10), 0);
+        due("one millionth", x.chance(0, 6, 9), 1);
         due("b, odds 10", x.chance(1, 1, 10), 1000000);
         due("odds 11", x.chance(0, 6, 11), NONE);
         due("odds -1", x.chance(0, 6, -1), NONE);
@@ -1233,6 +1264,28 @@ public final class StoneSecretsPromises {
         due("back", y.mark(2, true), true);
         due("week", y.count(3), 0);
         yearStaysByAMark();
+        seenByMarks();
+    }
+
+    private static void seenByMarks() {
+        StoneSecrets x = weighed();
+        x.mark(0, false);
+        x.see(0, 5, true);
+        x.mark(1, false);
+        x.mark(0, true);
+        due("nothing is SEEN", x.fit(), 6);
+        x.see(1, 1, false);
+        due("none at 1", x.fit(), 2);
+        x.mark(2, false);
+        x.mark(1, true);
+        due("b at 0", x.fit(), 2);
+        due("b at 0: where to weigh", x.look(), 1);
+        x.mark(2, true);
+        due("none at 1: where to weigh", x.look(), 0);
+        x.mark(0, true);
+        x.see(2, 9, true);
+        x.mark(1, true);
+        due("b at 0", x.fit(), 2);
     }
 
     private static void yearStaysByAMark() {
