@@ -1,104 +1,6 @@
-import java.nio.charset.StandardCharsets;
-import java.util.NoSuchElementException;
-
 /** Each promise of the document by its number: ordinary inputs, the edges that it names, and wrong inputs. */
-public final class StoneSecretsPromises {
-    private static final int NONE = StoneSecrets.NONE;
-    private static final int THROWN = -99;
-
-    private static int promise = 0;
-    private static int asked = 0;
-    private static int wrong = 0;
-
-    private static void due(String call, long got, long want) {
-        asked++;
-        if (got != want) {
-            wrong++;
-            System.out.println("promise " + promise + ": " + call + " answered " + got + ", due is " + want);
-        }
-    }
-
-    private static void due(String call, boolean got, boolean want) {
-        due(call, got ? 1 : 0, want ? 1 : 0);
-    }
-
-    /** All bytes of a text on the TAPE, the last call filled up with bytes that are left out. */
-    private static int feedAll(StoneSecrets x, String text) {
-        byte[] bytes = text.getBytes(StandardCharsets.ISO_8859_1);
-        int length = x.count(13);
-        for (int at = 0; at < bytes.length; at += 24) {
-            long[] three = new long[3];
-            for (int i = 0; i < 24 && at + i < bytes.length; i++) {
-                three[i / 8] |= (bytes[at + i] & 255L) << 56 - i % 8 * 8;
-            }
-            length = x.feed(three[0], three[1], three[2]);
-        }
-        return length;
-    }
-
-    private static int valley(StoneSecrets x, String text) {
-        feedAll(x, text);
-        return x.valley();
-    }
-
-    private static int year(StoneSecrets x, String text) {
-        feedAll(x, text);
-        return x.year();
-    }
-
-    private static StoneSecrets told(String text) {
-        StoneSecrets x = new StoneSecrets();
-        int fault = valley(x, text);
-        due("valley \"" + text + "\"", fault, 0);
-        return x;
-    }
-
-    private static void tellAll(StoneSecrets x) {
-        for (int soul = 0; soul < 6; soul++) {
-            x.tell(soul);
-        }
-    }
-
-    /** The SOULS stand at these PLACES; NONE: the SOUL is only CARRIED. */
-    private static void setAll(StoneSecrets x, int... places) {
-        for (int soul = 0; soul < places.length; soul++) {
-            x.tell(soul);
-            if (places[soul] != NONE) {
-                due("sets(" + soul + ", " + places[soul] + ")", x.sets(soul, places[soul]), true);
-            }
-        }
-    }
-
-    private static void weeks(StoneSecrets x, int many) {
-        for (int i = 0; i < many; i++) {
-            x.week();
-        }
-    }
-
-    private static int rests(StoneSecrets x, int lose, int throwing, int waiting, int what) {
-        try {
-            return x.rests(lose, throwing, waiting, what);
-        } catch (NoSuchElementException e) {
-            return THROWN;
-        }
-    }
-
-    /** A fault of a VALLEY's text: its kind, at the place of the sign ^, which itself is no part of the text. */
-    private static void fault(int kind, String marked) {
-        int place = marked.indexOf('^');
-        String text = marked.substring(0, place) + marked.substring(place + 1);
-        due("valley \"" + marked + "\"", valley(new StoneSecrets(), text), kind + 16L * place);
-    }
-
-    private static void yearFault(int kind, String marked) {
-        StoneSecrets x = told("wall 3; soul ann plain secret 1 due 2; soul bo boy secret 1 due 2;");
-        int place = marked.indexOf('^');
-        String text = marked.substring(0, place) + marked.substring(place + 1);
-        due("year \"" + marked + "\"", year(x, text), kind + 16L * place);
-    }
-
+public final class StoneSecretsPromises extends StoneSecretsChecks {
     private static final String THREE = "wall 5; soul a plain secret 3 due 4; soul b priest secret 4 due 9; soul c lord secret 1 due 0;";
-    private static final String NO_FALL = "falls 0;";
 
     private static void aNewObject() {
         StoneSecrets x = new StoneSecrets();
@@ -416,12 +318,6 @@ public final class StoneSecretsPromises {
         laws();
     }
 
-    private static void law(String text, boolean falls) {
-        StoneSecrets x = told("wall 1; soul a plain secret 6 due 0; frost 3; falls " + text + ";");
-        setAll(x, 0);
-        due("falls " + text, x.week(), falls ? 1 : 0);
-    }
-
     private static void laws() {
         law("weight = 7", true);
         law("cold = 3", true);
@@ -688,12 +584,6 @@ public final class StoneSecretsPromises {
         due("no PLACES", tellingAll("soul a boy secret 0 due 0;").ways(), 0);
     }
 
-    private static StoneSecrets tellingAll(String text) {
-        StoneSecrets x = told(text);
-        tellAll(x);
-        return x;
-    }
-
     private static void way() {
         StoneSecrets x = waysValley();
         x.take(2);
@@ -879,11 +769,7 @@ public final class StoneSecretsPromises {
         due("a ring of five", x.colours(), 3);
         weeks(x, 3);
         due("b is OUT", x.colours(), 2);
-        StringBuilder lords = new StringBuilder();
-        for (char name = 'a'; name < 'g'; name++) {
-            lords.append("soul ").append(name).append(" lord secret 0 due 0;");
-        }
-        StoneSecrets y = told(lords.toString());
+        StoneSecrets y = told(alike(6, "lord", 0, 0));
         due("six lords", y.colours(), 6);
         y.week();
         due("all are OUT", y.colours(), 0);
@@ -902,11 +788,7 @@ public final class StoneSecretsPromises {
         for (int soul = 0; soul < 5; soul++) {
             due("colour(" + soul + "), b being OUT", x.colour(soul), later[soul]);
         }
-        StringBuilder lords = new StringBuilder();
-        for (char name = 'a'; name < 'g'; name++) {
-            lords.append("soul ").append(name).append(" lord secret 0 due 0;");
-        }
-        StoneSecrets y = told(lords.toString());
+        StoneSecrets y = told(alike(6, "lord", 0, 0));
         for (int soul = 0; soul < 6; soul++) {
             due("lord " + soul, y.colour(soul), soul);
         }
@@ -1328,7 +1210,7 @@ public final class StoneSecretsPromises {
     }
 
     private static void run(int number) {
-        promise = number;
+        about("promise " + number);
         switch (number) {
             case 1 -> aNewObject();
             case 2 -> feed();
@@ -1386,9 +1268,6 @@ public final class StoneSecretsPromises {
         for (int number = 1; number <= 49; number++) {
             run(number);
         }
-        System.out.println(wrong == 0 ? "all " + asked + " answers are as due" : wrong + " of " + asked + " answers are not as due");
-        if (wrong != 0) {
-            System.exit(1);
-        }
+        end();
     }
 }
