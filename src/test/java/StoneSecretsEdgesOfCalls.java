@@ -417,6 +417,33 @@ public final class StoneSecretsEdgesOfCalls extends StoneSecretsChecks {
         z.sets(0, 0);
         due("frost of week 12 is that of week 0", z.falls(0), 12);
         due("one that stands now", settingAll("wall 2;" + alike(2, "boy", 0, 0) + "falls beside = 1;", 0, 1).falls(1), 1);
+        due("two beside", settingAll("wall 3;" + alike(3, "boy", 0, 0) + "falls beside = 2 and date = 4;", 0, 1, 2).falls(1), 5);
+
+        about("WEEKS going by: what falls changes what stands beside, a week later");
+        StoneSecrets chain = settingAll("wall 4;soul a plain secret 0 due 0;soul b plain secret 1 due 0;soul c plain secret 2 due 0;"
+            + "soul d plain secret 3 due 0;falls weight = 4 and date = 2 or (weight = 3 and beside = 1) or (weight = 2 and beside = 1)"
+            + "or (weight = 1 and beside = 0);", 0, 1, 2, 3);
+        for (int soul = 0; soul < 4; soul++) {
+            due("one by another", chain.falls(soul), 6 - soul);
+        }
+        StoneSecrets six = tellingAll("wall 6;soul a plain secret 0 due 0;soul b plain secret 1 due 0;soul c plain secret 2 due 0;"
+            + "soul d plain secret 3 due 0;soul e plain secret 4 due 0;soul f plain secret 5 due 0;falls date = weight * 10 - 1;");
+        for (int soul = 0; soul < 6; soul++) {
+            six.sets(soul, soul);
+        }
+        for (int soul = 0; soul < 6; soul++) {
+            due("each in its own week", six.falls(soul), 10 * (soul + 1));
+        }
+        due("behind 49", six.later(49), 0b110000);
+        due("behind 59", six.later(59), 0b100000);
+        due("behind 60", six.later(60), 0);
+        due("bare", six.bare(), 60);
+        six.take(5);
+        six.take(0);
+        due("what is TAKEN stands no more", six.later(0), 0b011110);
+        due("bare", six.bare(), 50);
+        due("first", six.first(), 1);
+        due("falls", six.falls(5), NONE);
     }
 
     private static void blurts() {
@@ -474,6 +501,7 @@ public final class StoneSecretsEdgesOfCalls extends StoneSecretsChecks {
         about("FIRST: which FALLS the soonest (by 60); NONE: none by 60");
         due("no VALLEY", new StoneSecrets().first(), NONE);
         due("nobody is SET", tellingAll("wall 1;" + alike(1, "boy", 0, 0) + "falls 1;").first(), NONE);
+        due("1", one("falls 1;").first(), 0);
         due("60", one("falls date = 59;").first(), 0);
         due("61", one("falls date = 60;").first(), NONE);
         due("never", one(NO_FALL).first(), NONE);
@@ -504,6 +532,11 @@ public final class StoneSecretsEdgesOfCalls extends StoneSecretsChecks {
         due("8 < 9", settingAll("wall 1;soul a plain secret 7 due 0;", 0).least(0), 9);
         due("1 < 2", settingAll("wall 1;soul a plain secret 0 due 0;", 0).least(0), 2);
         due("the least, not the most", one("falls cold = 3 or cold = 7;").least(0), 3);
+        StoneSecrets row = settingAll("wall 5;" + alike(4, "boy", 0, 0) + "falls beside = 2 and cold = 4 or (beside = 1 and cold = 6);", 0, 1, 2, 4);
+        due("none beside", row.least(3), NONE);
+        due("one beside, at an end", row.least(0), 6);
+        due("one beside", row.least(2), 6);
+        due("two beside", row.least(1), 4);
 
         about("in place of what is told");
         due("frost told", one("frost 9;falls cold = 4;").least(0), 4);
@@ -618,6 +651,7 @@ public final class StoneSecretsEdgesOfCalls extends StoneSecretsChecks {
         due("no WAY", noWay().sure(0), NONE);
         due("no WAY", noWay().sure(1), NONE);
         due("not the same", x.sure(CARRIED), NONE);
+        due("two WAYS", settingAll("wall 3;" + alike(2, "boy", 0, 0), 0, NONE).sure(1), NONE);
         due("KEPT", x.sure(KEPT), NONE);
         due("OUT", x.sure(OUT), NONE);
         due("not the same in the last of 20,160", sixOnEight().sure(0), NONE);
@@ -648,6 +682,7 @@ public final class StoneSecretsEdgesOfCalls extends StoneSecretsChecks {
         due("no PLACES", tellingAll(alike(6, "boy", 0, 0)).fullest(), 0);
         due("full", noWay().fullest(), 0);
         due("all six", sixOnEight().fullest(), 63);
+        due("the first alone", tellingAll("wall 1;" + alike(1, "boy", 0, 0)).fullest(), 1);
         due("six on five", tellingAll("wall 5;" + alike(6, "boy", 0, 0)).fullest(), 31);
         due("six lords on eight", tellingAll("wall 8;" + alike(6, "lord", 0, 0)).fullest(), 15);
         due("the most, though b alone is a less one", tellingAll("wall 2;" + alike(4, "boy", 0, 0)
@@ -833,6 +868,12 @@ public final class StoneSecretsEdgesOfCalls extends StoneSecretsChecks {
         about("GRUDGES of a SOUL: whom it HURTS (bits)");
         due("none", told(alike(6, "boy", 0, 0)).grudges(0), 0);
         due("a lord alone", told(alike(1, "lord", 0, 0)).grudges(0), 0);
+        due("a lord and another one", told("soul a boy secret 0 due 0;soul b lord secret 0 due 0;").grudges(1), 0);
+        due("another one and a lord", told("soul a boy secret 0 due 0;soul b lord secret 0 due 0;").grudges(0), 0);
+        StoneSecrets lordly = told("soul a boy secret 0 due 0;" + "soul b lord secret 0 due 0;soul c lord secret 0 due 0;hurts b a;");
+        due("a lord: by hurts and by another lord", lordly.grudges(1), 0b101);
+        due("whom a lord hurts", lordly.grudges(0), 0b010);
+        due("the other lord", lordly.grudges(2), 0b010);
         due("all but itself", told(alike(6, "lord", 0, 0)).grudges(5), 31);
         due("from either", third.grudges(3), 0b0100);
         due("those OUT, too", third.grudges(1), 0b0101);
@@ -907,6 +948,7 @@ public final class StoneSecretsEdgesOfCalls extends StoneSecretsChecks {
         due("the first PLACE", y.beside(0), 0b000100);
         due("the last PLACE", y.beside(1), 0b001000);
         due("both sides", y.beside(5), 0b010100);
+        due("both sides, the first SOUL on one", y.beside(2), 0b100001);
         due("one side", y.beside(4), 0b100000);
         due("the ends are not beside", settingAll("wall 8;" + alike(2, "boy", 0, 0), 0, 7).beside(0), 0);
         due("a wall of one", one(NO_FALL).beside(0), 0);
@@ -930,6 +972,12 @@ public final class StoneSecretsEdgesOfCalls extends StoneSecretsChecks {
         due("two lords at the ends", settingAll("wall 8;" + alike(2, "lord", 0, 0), 0, 7).swaps(), 1);
         due("a third is in the way of two of them: c beside a or b",
             settingAll("wall 4;" + alike(3, "boy", 0, 0) + "hurts a b;", 0, 3, 1).swaps(), 2);
+        due("the last SOUL would come beside the second",
+            settingAll("wall 4;" + alike(3, "boy", 0, 0) + "hurts b c;", 0, 1, 3).swaps(), 2);
+        due("the second SOUL would come beside the last",
+            settingAll("wall 4;" + alike(3, "boy", 0, 0) + "hurts b c;", 2, 0, 3).swaps(), 2);
+        due("the first SOUL would come beside the second",
+            settingAll("wall 4;" + alike(3, "boy", 0, 0) + "hurts b a;", 3, 1, 0).swaps(), 2);
         due("one that is only CARRIED is in nobody's way",
             settingAll("wall 4;" + alike(3, "boy", 0, 0) + "hurts a c;", 0, 1, NONE).swaps(), 1);
     }
@@ -976,6 +1024,17 @@ public final class StoneSecretsEdgesOfCalls extends StoneSecretsChecks {
         about("(0: none stands)");
         due("less than 1", seeing(1, false).fit(), 2);
         due("1 or more", seeing(1, true).fit(), 1);
+
+        about("SEEN anew in another VALLEY");
+        StoneSecrets anew = seeing(9, true);
+        anew.see(1, 9, true);
+        due("valley", valley(anew, "wall 4;" + alike(1, "boy", 0, 0)), 0);
+        tellAll(anew);
+        due("nothing", anew.fit(), 4);
+        anew.see(0, 9, false);
+        due("less at 0", anew.fit(), 3);
+        anew.see(1, 9, false);
+        due("less at 1, too", anew.fit(), 2);
     }
 
     /** A stone of 9 is to be set on three PLACES, and at the first this is SEEN. */
@@ -1039,6 +1098,12 @@ public final class StoneSecretsEdgesOfCalls extends StoneSecretsChecks {
         about("the PLACE at which the greatest number of these with the same WEIGHT is the least, if that is less than all");
         due("2 WAYS", settingAll("wall 3;" + alike(2, "boy", 0, 0), 0, NONE).look(), 1);
         due("6 on 8: 15,120 with one, of 20,160", sixOnEight().look(), 0);
+        StoneSecrets twice = settingAll("wall 3;" + alike(2, "boy", 0, 0), 0, NONE);
+        due("asked once", twice.look(), 1);
+        due("asked twice", twice.look(), 1);
+        twice.fit();
+        twice.sets(1, 1);
+        due("one WAY then", twice.look(), NONE);
         due("at the last PLACE", settingAll("wall 4;" + alike(2, "boy", 0, 0) + "soul c plain secret 0 due 0;hurts b c;", 1, NONE, NONE).look(), 0);
         StoneSecrets last = tellingAll("wall 3;soul a plain secret 0 due 0;soul b plain secret 1 due 0;");
         last.see(0, 1, true);
@@ -1301,6 +1366,7 @@ public final class StoneSecretsEdgesOfCalls extends StoneSecretsChecks {
         w.mark(1, true);
         due("two", w.count(11), 2);
         due("there may be more again", w.see(2, 1, false), true);
+        seenOnMarks();
 
         about("(nothing can be undone when one is gone back to)");
         StoneSecrets v = one(NO_FALL);
@@ -1323,6 +1389,32 @@ public final class StoneSecretsEdgesOfCalls extends StoneSecretsChecks {
         u.mark(0, true);
         due("lines", u.count(10), 1);
         due("signs", u.count(13), 4);
+    }
+
+    /** What is SEEN first differs by MARKS: in its PLACE, in its WEIGHT, in more or less. */
+    private static void seenOnMarks() {
+        StoneSecrets x = tellingAll("wall 3;soul a plain secret 0 due 9;soul b plain secret 1 due 9;");
+        x.mark(0, false);
+        int[] places = {0, 1, 1, 1};
+        int[] weights = {2, 2, 1, 1};
+        boolean[] more = {true, true, true, false};
+        int[] want = {2, 2, 4, 2};
+        for (int mark = 1; mark <= 3; mark++) {
+            x.mark(0, true);
+            x.see(places[mark], weights[mark], more[mark]);
+            due("SEEN for MARK " + mark, x.fit(), want[mark]);
+            x.mark(mark, false);
+        }
+        x.mark(0, true);
+        x.see(places[0], weights[0], more[0]);
+        due("where to weigh, b being at 0", x.look(), 1);
+        for (int mark = 3; mark >= 1; mark--) {
+            due("gone back to", x.mark(mark, true), true);
+            due("SEEN on MARK " + mark, x.fit(), want[mark]);
+        }
+        due("b is at 1: where to weigh", x.look(), 0);
+        x.mark(0, true);
+        due("nothing SEEN", x.fit(), 6);
     }
 
     private static void count() {

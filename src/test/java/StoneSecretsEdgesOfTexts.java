@@ -418,6 +418,16 @@ public final class StoneSecretsEdgesOfTexts extends StoneSecretsChecks {
         fault(5, "falls ((((1 + not ^1");
         law("((((1 + 1))))", true);
 
+        law("1 and 0 < 0 + 1 * (".repeat(4) + "1 and 0 < 0 + 1 * 1" + ")".repeat(4), true);
+        law("1 and 0 < 0 + 1 * (".repeat(4) + "1 and 0 < 0 + 1 * 0" + ")".repeat(4), false);
+
+        about("a law as long as the TAPE");
+        String head = "wall 1;soul a boy secret 0 due 0;falls 475=0";
+        String longest = head + "+1".repeat(475) + " ".repeat(1000 - head.length() - 2 * 475 - 1) + ";";
+        due("signs", longest.length(), 1000);
+        due("475 of 1", settingAll(longest, 0).week(), 1);
+        due("474 of 1", settingAll(longest.replace("475=0+1", "475=0+0"), 0).week(), 0);
+
         about("TEST: SUM, or SUM < SUM, or SUM = SUM");
         fault(1, "falls 1 < 2 ^< 3;");
         fault(1, "falls 1 < 2 ^= 3;");
@@ -510,6 +520,15 @@ public final class StoneSecretsEdgesOfTexts extends StoneSecretsChecks {
         due("2 beside", y.week(), 4);
         StoneSecrets ends = settingAll("wall 8;" + alike(2, "boy", 1, 1) + "falls beside;", 0, 7);
         due("the ends are not beside", ends.week(), 0);
+
+        about("the law of a VALLEY is that VALLEY's alone");
+        StoneSecrets laws = told("falls not 1;");
+        due("a shorter one", valley(laws, "wall 1;soul a plain secret 0 due 9;falls 1;"), 0);
+        setAll(laws, 0);
+        due("it is so", laws.week(), 1);
+        due("a longer one", valley(laws, "wall 1;soul a plain secret 0 due 9;falls 1 - 1 + 1 - 1;"), 0);
+        setAll(laws, 0);
+        due("it is not", laws.week(), 0);
 
         about("Without falls: weight < cold");
         StoneSecrets z = settingAll("wall 3;soul a plain secret 4 due 0;soul b plain secret 3 due 0;frost 5;", 0, 2);
@@ -663,6 +682,18 @@ public final class StoneSecretsEdgesOfTexts extends StoneSecretsChecks {
         due("valley", valley(z, "wall 4;" + TWO), 0);
         due("KEPT", z.count(5), 3);
         due("undo()", z.undo(), false);
+
+        StoneSecrets stones = settingAll("wall 6;" + alike(6, "boy", 0, 0) + NO_FALL, 5, 4, 3, 2, 1, 0);
+        year(stones, "tell a;set a 3;");
+        due("judged", stones.judged(2), 1);
+        due("valley", valley(stones, "wall 6;" + alike(6, "boy", 0, 0) + NO_FALL), 0);
+        for (int place = 0; place < 6; place++) {
+            due("nobody stands at " + place, stones.stands(place), NONE);
+        }
+        stones.tell(5);
+        due("may", stones.may(5), 63);
+        year(stones, "tell b;set b 3;");
+        due("judged", stones.judged(0), NONE);
 
         about("an empty VALLEY begins again, too");
         StoneSecrets w = lived();
