@@ -1020,26 +1020,34 @@ public final class StoneSecrets {
             }
         }
 
+        /** Looks at ) itself: one call more, and the calls that are no recursion would go too deep. */
         private boolean readPart(Tape tape, int depth) {
             int leaf = leafOf(tape);
-            if (leaf == NOT_A_LEAF && tape.token != WORD_NOT && tape.token != '(') {
+            boolean opens = tape.token == '(';
+            if (leaf == NOT_A_LEAF && !opens && tape.token != WORD_NOT) {
                 return tape.wrong(NO_TOKEN);
             }
             if (depth >= MOST_DEPTH) {
                 return tape.wrong(TOO_MANY);
             }
-            boolean opens = tape.token == '(';
             tape.step();
             if (leaf != NOT_A_LEAF) {
                 put(leaf);
                 return true;
             }
-            if (opens) {
-                return readLevel(tape, 0, depth + 1) && tape.pass(')');
+            if (!opens) {
+                boolean right = readPart(tape, depth + 1);
+                put(NOT);
+                return right;
             }
-            boolean right = readPart(tape, depth + 1);
-            put(NOT);
-            return right;
+            if (!readLevel(tape, 0, depth + 1)) {
+                return false;
+            }
+            if (tape.token != ')') {
+                return tape.wrong(NO_TOKEN);
+            }
+            tape.step();
+            return true;
         }
 
         private static int leafOf(Tape tape) {
@@ -1190,7 +1198,7 @@ public final class StoneSecrets {
                 case WORD_FROST:
                     return readFrost(tape);
                 case WORD_FALLS:
-                    return readLaw(tape);
+                    return beginLaw(tape) && law.readLevel(tape, 0, 0);
                 default:
                     return tape.wrong(NO_TOKEN);
             }
@@ -1303,14 +1311,14 @@ public final class StoneSecrets {
             return true;
         }
 
-        private boolean readLaw(Tape tape) {
+        private boolean beginLaw(Tape tape) {
             if (lawTold) {
                 return tape.wrong(TOLD_TWICE);
             }
             lawTold = true;
             law.beNothing();
             tape.step();
-            return law.readLevel(tape, 0, 0);
+            return true;
         }
 
         /** Only when all is read: until then a lord's grudge is not one that hurts has told. */
