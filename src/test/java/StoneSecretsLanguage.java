@@ -29,7 +29,7 @@ import javax.tools.JavaCompiler;
 import javax.tools.StandardJavaFileManager;
 import javax.tools.ToolProvider;
 
-/** What of ../shared/LANGUAGE.md can be read off the source: each fault is printed with its rule's number. */
+/** Some rules of ../shared/LANGUAGE.md, read off the source: each fault is printed with its rule's number. */
 public final class StoneSecretsLanguage {
     private static final Path SOURCE = Path.of("src/main/java/StoneSecrets.java");
     private static final String OWN = "StoneSecrets";
